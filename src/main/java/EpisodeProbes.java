@@ -258,9 +258,10 @@ public final class EpisodeProbes {
         return partOf(records.lossySlots(), bottom, what);
     }
 
+    /** The sum of some numbers of an array; those before its begin and behind its end are 0. */
     private static int sumOf(int[] numbers, int first, int last) {
         int sum = 0;
-        for (int i = Math.max(first, 0); i <= last && i < numbers.length; i++) sum += numbers[i];
+        for (int i = first < 0 ? 0 : first; i <= last && i < numbers.length; i++) sum += numbers[i];
         return sum;
     }
 
@@ -642,20 +643,16 @@ public final class EpisodeProbes {
             return UNKNOWN;
         }
 
-        private boolean hasNext() {
-            return next >= 0 && next < tokens && next < MOST;
-        }
-
         int kind() {
-            return hasNext() ? kinds[next] : END;
+            return next >= 0 && next < MOST ? kinds[next] : END;
         }
 
         int start() {
-            return hasNext() ? starts[next] : 0;
+            return next >= 0 && next < MOST ? starts[next] : 0;
         }
 
         int value() {
-            return hasNext() ? values[next] : UNKNOWN;
+            return next >= 0 && next < MOST ? values[next] : UNKNOWN;
         }
 
         /** The end stays: it is a token that can't be taken. */

@@ -179,6 +179,15 @@ public final class ChainsTest {
         // Two lossy states in turn, then one that is not: U = 2/3, V = 0.
         expects(chain("101", 0, 12, 0, 0, 0, 12, 12, 0, 0), "2/3 2/1 1/1");
         EpisodeProbes x = chain("10", 6, 6, 3, 9);
+        expects(x, "1/3 2/1 5/2");
+        x.weight(0, 0, 3);
+        x.weight(0, 1, 9);
+        expects(x, "1/4 4/3 2/1");
+        x.empty();
+        x.state(1);
+        x.weight(0, 0, 12);
+        expects(x, "1/1 -4/-4 -4/-4");
+        x = chain("10", 6, 6, 3, 9);
         x.trust(0, 0);
         x.trust(2, 0);
         Check.due("tests do not matter", x.expected(1, 0), 2);

@@ -67,6 +67,7 @@ public final class EstimatesTest {
         Check.due("an estimate", x.estimate(0, 0), EpisodeProbes.FEW);
         x.steps(1);
         Check.due("a new one is counted", x.forget(), 1);
+        Check.due("the sum of all", saw("01 10 10 101 001 001 111 111 111").forget(), 9);
     }
 
     private static void trust() {
@@ -129,6 +130,8 @@ public final class EstimatesTest {
     private static void estimates() {
         estimate("00", 0, 0, 1);
         estimate("11 111", 0, 1, 1);
+        estimate("10 10 10 01 00", 0, 3, 5);
+        estimate("101 001 010", 0, 1, 3);
         estimate("10 01 00", 0, 1, 3);
         estimate("100 001 010 011 10 00", 0, 1, 3);
         estimate("110 101 00 01", 0, 1, 2);

@@ -268,6 +268,13 @@ public final class ModelTest {
 
     private static void chains(int run) {
         begin(run);
+        for (int i = between(1, 3); i > 0; i--) {
+            Check.due("empty", x.empty(), m.empty());
+            oneChain();
+        }
+    }
+
+    private static void oneChain() {
         int states = between(1, 5), share = between(1, 5);
         for (int s = 0; s < states; s++) {
             int isLossy = draw(6) < share ? 1 : 0;

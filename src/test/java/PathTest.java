@@ -9,6 +9,7 @@ public final class PathTest {
         pathErrors();
         pathLengths();
         pathBeginsAnew();
+        pathAfterPath();
         row();
         Check.end("PathTest");
     }
@@ -27,6 +28,17 @@ public final class PathTest {
         x.steps(1);
         Check.due("new: 4 pairs are within the budget of 20 in 1 slot", x.count(5), 4);
         Check.due("new: the mark is above a full queue of 10", x.slot(0, 1), 0);
+        x = Check.path("room 40; cross 20; cross 19;");
+        x.asks(2);
+        x.steps(1);
+        Check.due("new: a queue of 39 is below the mark", x.slot(0, 1), 0);
+        x = Check.path("plan 3;");
+        x.draws(16, 5);
+        for (int slot = 0; slot < 12; slot++) {
+            for (int i = 0; i < 4; i++) x.asks(3);
+            x.steps(1);
+        }
+        Check.due("new: as many as can begin are within the budget", x.count(5) * 100 + x.count(6), 7200);
     }
 
     private static void type() {
@@ -127,6 +139,16 @@ public final class PathTest {
         error("room 5;;", 7);
         error("(room 5;", 0);
         error("Room 5;", 0);
+        error("xoom 5;", 0);
+        error("roomz 5;", 0);
+        error("room 5;z", 7);
+        error("zoom 5;", 0);
+        error("\0", 0);
+        error("room 5; \0", 8);
+        error("room 5`;", 6);
+        error("room 5{;", 6);
+        error("room 5/;", 6);
+        error("room 5:;", 6);
         error("rOom 5;", 0);
         error("room\t5;", 4);
         error("room 5\u00e9;", 6);
@@ -140,6 +162,8 @@ public final class PathTest {
         error("cross 1 room 5;", 8);
         error("cross ();", 7);
         error("cross (1;", 8);
+        error("cross 1 (1;", 10);
+        error("cross 1 ((1)2;", 13);
         error("cross 1)2;", 7);
         error("cross (1);", 9);
         error("cross (1)0;", 9);
@@ -208,6 +232,29 @@ public final class PathTest {
         Check.due("no chance", x.draws(0, 0), 0);
         x.asks(2);
         Check.holds("slots begin anew", x.steps(3) == 0 && x.pattern(2, 0) == 1 && x.lossy(2) == 0 && x.lossy(3) == EpisodeProbes.NONE);
+    }
+
+    /** What an earlier text gave or spoilt does not matter to a later one. */
+    private static void pathAfterPath() {
+        EpisodeProbes x = Check.path("room 2; rate 2; mark 1; budget 2 9; plan 2 3; cross 3; cross 1;");
+        Check.typed(x, "room 4; rate 9; cross 7; cross 8; plan 3 (((2").path();
+        x.clear();
+        Check.due("one item", Check.typed(x, "cross 5;").path(), 1);
+        Check.due("one source", x.count(10), 1);
+        Check.due("no second source", x.row(1, 0), EpisodeProbes.BAD);
+        Check.due("no plan", x.row(4, 0), EpisodeProbes.BAD);
+        Check.due("the length of no plan", x.count(11), 0);
+        Check.holds("the rest is as at first", Check.picture(x).equals(Check.picture(Check.path("cross 5;"))));
+        Check.typed(x, "plan 2; cross (((1").path();
+        x.clear();
+        Check.due("the source stays after an error", x.row(0, 0), 5);
+        Check.due("no plan after an error", x.count(11), 0);
+        Check.due("a row after an unfinished group", Check.typed(x, "cross (2)3;").path(), 1);
+        x.asks(2);
+        x.asks(2);
+        x.steps(1);
+        Check.due("the budget is as at first", x.count(6), 0);
+        for (int what = 0; what <= 2; what++) Check.due("no probe has left", x.delay(what), 0);
     }
 
     private static void row() {
