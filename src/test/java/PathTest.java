@@ -231,7 +231,26 @@ public final class PathTest {
         Check.holds("all else begins anew", Check.picture(x).equals(Check.picture(new EpisodeProbes())));
         Check.due("no chance", x.draws(0, 0), 0);
         x.asks(2);
+        pathBeginsAnewWhenBusy();
         Check.holds("slots begin anew", x.steps(3) == 0 && x.pattern(2, 0) == 1 && x.lossy(2) == 0 && x.lossy(3) == EpisodeProbes.NONE);
+    }
+
+    /** With a queue, delays, sights, active experiments and requests from before, all goes on as on a new object. */
+    private static void pathBeginsAnewWhenBusy() {
+        EpisodeProbes x = Check.path("room 9; mark 1; plan 2 3; cross 3 1 0 0 0 0 0 0 0 4; budget 5 4;"), y = new EpisodeProbes();
+        for (int slot = 0; slot < 31; slot++) {
+            x.asks(3);
+            x.steps(1);
+        }
+        x.asks(2);
+        Check.holds("probes wait, have left late and have seen 1", x.packets(4, 3) > 0 && x.delay(2) > 0 && x.slot(30, 1) > 0);
+        x.path();
+        Check.holds("as a new object", Check.picture(x).equals(Check.picture(y)));
+        for (int slot = 0; slot < 31; slot++) {
+            if (slot % 3 == 0) Check.due("asks", x.asks(2), y.asks(2));
+            Check.due("steps", x.steps(1), y.steps(1));
+            Check.holds("as a new object, slot " + slot, Check.picture(x).equals(Check.picture(y)));
+        }
     }
 
     /** What an earlier text gave or spoilt does not matter to a later one. */
@@ -255,6 +274,15 @@ public final class PathTest {
         x.steps(1);
         Check.due("the budget is as at first", x.count(6), 0);
         for (int what = 0; what <= 2; what++) Check.due("no probe has left", x.delay(what), 0);
+        x = Check.path("budget 2 9;");
+        Check.typed(x, "budget 2").path();
+        x.clear();
+        x.path();
+        for (int i = 0; i < 4; i++) x.asks(3);
+        x.steps(1);
+        for (int i = 0; i < 4; i++) x.asks(3);
+        x.steps(1);
+        Check.due("8 triples in 2 slots are within the budget as at first", x.count(5), 8);
     }
 
     private static void row() {

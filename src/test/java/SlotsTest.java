@@ -164,6 +164,11 @@ public final class SlotsTest {
         x.asks(2);
         x.steps(1);
         Check.due("slots 1 and 2, and 2 and 3 have 2", x.count(5) * 10 + x.count(6), 22);
+        x = Check.path("budget 3 16;");
+        x.asks(2);
+        x.asks(2);
+        x.steps(1);
+        Check.due("slot 0 counts in what would begin before it", x.count(6), 1);
         x = Check.path("budget 3 4;");
         x.asks(3);
         x.steps(3);
@@ -292,6 +297,16 @@ public final class SlotsTest {
         Check.due("kind, begin and bits move up", y.under(0, 0) * 100 + y.under(0, 1) * 10 + y.under(0, 2), 211);
         Check.due("kind, begin and bits move up", y.under(1, 0) * 100 + y.under(1, 1) * 10 + y.under(1, 2), 311);
         Check.due("the last one is gone", y.under(2, 0), EpisodeProbes.BAD);
+        y = Check.path("rate 3; mark 2; cross 2 0 0 0;");
+        y.asks(3);
+        y.steps(1);
+        y.asks(3);
+        y.steps(1);
+        Check.due("bits 10 and 0", y.under(0, 2) * 10 + y.under(1, 2), 20);
+        y.breaks(0);
+        Check.due("bits 0", y.under(0, 2), 0);
+        y.steps(2);
+        Check.due("the pattern 000", y.pattern(3, 0), 1);
         y = Check.path("mark 1; cross 0 1 0;");
         y.asks(3);
         y.steps(1);
