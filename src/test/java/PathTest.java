@@ -278,6 +278,7 @@ public final class PathTest {
         Check.typed(x, "budget 2").path();
         x.clear();
         x.path();
+        x.path();
         for (int i = 0; i < 4; i++) x.asks(3);
         x.steps(1);
         for (int i = 0; i < 4; i++) x.asks(3);
