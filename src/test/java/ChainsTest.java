@@ -15,8 +15,8 @@ public final class ChainsTest {
     }
 
     /** A chain: which states are lossy, and the weights from each state. */
-    private static EpisodeProbes chain(String lossy, int... weights) {
-        EpisodeProbes x = new EpisodeProbes();
+    private static Probes chain(String lossy, int... weights) {
+        Probes x = new Probes();
         int states = lossy.length();
         for (int s = 0; s < states; s++) x.state(lossy.charAt(s) - '0');
         for (int i = 0; i < states * states; i++) x.weight(i / states, i % states, weights[i]);
@@ -24,7 +24,7 @@ public final class ChainsTest {
     }
 
     private static void state() {
-        EpisodeProbes x = new EpisodeProbes();
+        Probes x = new Probes();
         for (int s = 0; s < 5; s++) {
             Check.due("lossy below", x.state(-1), EpisodeProbes.BAD);
             Check.due("lossy above", x.state(2), EpisodeProbes.BAD);
@@ -37,7 +37,7 @@ public final class ChainsTest {
     }
 
     private static void weight() {
-        EpisodeProbes x = new EpisodeProbes();
+        Probes x = new Probes();
         Check.due("no state", x.weight(0, 0, 5), EpisodeProbes.BAD);
         x.state(1);
         x.state(0);
@@ -61,7 +61,7 @@ public final class ChainsTest {
     }
 
     private static void empty() {
-        EpisodeProbes x = chain("10", 6, 6, 3, 9);
+        Probes x = chain("10", 6, 6, 3, 9);
         Check.due("sound", x.share(0, 1), 3);
         Check.due("empty", x.empty(), 2);
         Check.due("empty again", x.empty(), 0);
@@ -73,7 +73,7 @@ public final class ChainsTest {
     }
 
     private static void sound(boolean isSound, String lossy, int... weights) {
-        EpisodeProbes x = chain(lossy, weights);
+        Probes x = chain(lossy, weights);
         for (int s = 0; s < lossy.length(); s++) {
             Check.holds("soundness", x.share(s, 0) == EpisodeProbes.STATE != isSound);
         }
@@ -104,7 +104,7 @@ public final class ChainsTest {
         sound(false, "10101", 0, 12, 0, 0, 0, 0, 0, 12, 0, 0, 0, 0, 0, 12, 0, 0, 0, 0, 0, 12, 0, 12, 0, 0, 0);
     }
 
-    private static void shares(EpisodeProbes x, String due) {
+    private static void shares(Probes x, String due) {
         StringBuilder all = new StringBuilder();
         for (int s = 0; s < x.count(12); s++) {
             all.append(s == 0 ? "" : " ").append(x.share(s, 0)).append('/').append(x.share(s, 1));
@@ -126,7 +126,7 @@ public final class ChainsTest {
         // Each share is 1/12 of the one before.
         shares(chain("00000", 11, 1, 0, 0, 0, 11, 0, 1, 0, 0, 11, 0, 0, 1, 0, 11, 0, 0, 0, 1, 12, 0, 0, 0, 0),
                 "20736/22621 1728/22621 144/22621 12/22621 1/22621");
-        EpisodeProbes x = chain("10", 6, 6, 3, 9);
+        Probes x = chain("10", 6, 6, 3, 9);
         Check.due("state below", x.share(-1, 0), EpisodeProbes.BAD);
         Check.due("state above", x.share(2, 0), EpisodeProbes.BAD);
         Check.due("what below", x.share(0, -1), EpisodeProbes.BAD);
@@ -134,7 +134,7 @@ public final class ChainsTest {
     }
 
     private static void chance() {
-        EpisodeProbes x = chain("10", 6, 6, 3, 9);
+        Probes x = chain("10", 6, 6, 3, 9);
         chances(x, 2, "1/2 1/6 1/6 1/6");
         chances(x, 3, "3/8 1/8 1/12 1/12 1/8 1/24 1/12 1/12");
         x = chain("11", 6, 6, 3, 9);
@@ -153,7 +153,7 @@ public final class ChainsTest {
         Check.due("what below", x.chance(2, 0, -1), EpisodeProbes.BAD);
     }
 
-    private static void chances(EpisodeProbes x, int kind, String due) {
+    private static void chances(Probes x, int kind, String due) {
         StringBuilder all = new StringBuilder();
         for (int bits = 0; bits < 1 << kind; bits++) {
             all.append(bits == 0 ? "" : " ").append(x.chance(kind, bits, 0)).append('/').append(x.chance(kind, bits, 1));
@@ -161,7 +161,7 @@ public final class ChainsTest {
         Check.holds("chances " + due + ", not " + all, all.toString().equals(due));
     }
 
-    private static void expects(EpisodeProbes x, String due) {
+    private static void expects(Probes x, String due) {
         StringBuilder all = new StringBuilder();
         for (int which = 0; which <= 2; which++) {
             all.append(which == 0 ? "" : " ").append(x.expected(which, 0)).append('/').append(x.expected(which, 1));
@@ -178,7 +178,7 @@ public final class ChainsTest {
         expects(chain("100", 0, 12, 0, 0, 0, 12, 12, 0, 0), "1/3 1/1 -4/-4");
         // Two lossy states in turn, then one that is not: U = 2/3, V = 0.
         expects(chain("101", 0, 12, 0, 0, 0, 12, 12, 0, 0), "2/3 2/1 1/1");
-        EpisodeProbes x = chain("10", 6, 6, 3, 9);
+        Probes x = chain("10", 6, 6, 3, 9);
         expects(x, "1/3 2/1 5/2");
         x.weight(0, 0, 3);
         x.weight(0, 1, 9);
@@ -197,13 +197,13 @@ public final class ChainsTest {
         Check.due("what above", x.expected(0, 2), EpisodeProbes.BAD);
     }
 
-    private static void last(EpisodeProbes x, int n, long top, long bottom) {
+    private static void last(Probes x, int n, long top, long bottom) {
         Check.due("lasts " + n, x.lasts(n, 0), top);
         Check.due("lasts " + n, x.lasts(n, 1), bottom);
     }
 
     private static void lasts() {
-        EpisodeProbes x = chain("10", 6, 6, 3, 9);
+        Probes x = chain("10", 6, 6, 3, 9);
         last(x, 1, 1, 1);
         last(x, 2, 1, 2);
         last(x, 10, 1, 512);
@@ -227,7 +227,7 @@ public final class ChainsTest {
 
     private static void lastsTooLong() {
         // Shares 1/2 and 1/2: T is 1 * 12, and 12 to the power 17 is below 2 to the 63.
-        EpisodeProbes x = chain("10", 0, 12, 12, 0);
+        Probes x = chain("10", 0, 12, 12, 0);
         last(x, 17, 0, 1);
         Check.due("T = 12, n = 18", x.lasts(18, 0), EpisodeProbes.OVER);
         // Shares 1/12 and 11/12: T is 11 * 1, and 11 * 12 to the 16 is small enough, 11 * 12 to the 17 is not.
@@ -256,7 +256,7 @@ public final class ChainsTest {
     }
 
     private static void order() {
-        EpisodeProbes x = chain("10", 6, 6, 3, 8);
+        Probes x = chain("10", 6, 6, 3, 8);
         Check.due("BAD is before STATE", x.share(2, 0), EpisodeProbes.BAD);
         Check.due("BAD is before STATE", x.share(0, 2), EpisodeProbes.BAD);
         Check.due("BAD is before STATE", x.chance(2, 4, 0), EpisodeProbes.BAD);
@@ -267,7 +267,7 @@ public final class ChainsTest {
         Check.due("STATE is before FEW", x.expected(1, 0), EpisodeProbes.STATE);
         Check.due("STATE is before FEW", x.lasts(1, 0), EpisodeProbes.STATE);
         x = chain("101", 0, 12, 0, 4, 0, 8, 0, 12, 0);
-        String before = Check.picture(x);
+        String before = Picture.of(x);
         for (int a = -2; a < 7; a++) {
             x.state(a + 20);
             for (int b = -2; b < 7; b++) {
@@ -278,6 +278,6 @@ public final class ChainsTest {
                 x.chance(a, b, 1);
             }
         }
-        Check.holds("asking and errors change nothing", Check.picture(x).equals(before));
+        Check.holds("asking and errors change nothing", Picture.of(x).equals(before));
     }
 }

@@ -15,15 +15,15 @@ public final class EstimatesTest {
      * Each slot's probes see what the string says: with room for 1 and the
      * rate 1, a probe is lost where a packet of the source is before it.
      */
-    private static EpisodeProbes seeing(String bits) {
+    private static Probes seeing(String bits) {
         StringBuilder text = new StringBuilder("room 1; cross");
         for (int i = 0; i < bits.length(); i++) text.append(' ').append(bits.charAt(i));
         return Check.path(text.append(';').toString());
     }
 
     /** One experiment for each pattern, one after the other: a pair for two bits, a triple for three. */
-    private static EpisodeProbes saw(String patterns) {
-        EpisodeProbes x = seeing(patterns.replace(" ", ""));
+    private static Probes saw(String patterns) {
+        Probes x = seeing(patterns.replace(" ", ""));
         for (String pattern : patterns.split(" ")) {
             x.asks(pattern.length());
             x.steps(pattern.length());
@@ -32,7 +32,7 @@ public final class EstimatesTest {
     }
 
     private static void patterns() {
-        EpisodeProbes x = saw("00 01 10 11 000 001 010 011 100 101 110 111");
+        Probes x = saw("00 01 10 11 000 001 010 011 100 101 110 111");
         for (int bits = 0; bits < 4; bits++) Check.due("pair " + bits, x.pattern(2, bits), 1);
         for (int bits = 0; bits < 8; bits++) Check.due("triple " + bits, x.pattern(3, bits), 1);
         x = saw("01 01 01 110 110 11");
@@ -49,7 +49,7 @@ public final class EstimatesTest {
     }
 
     private static void forget() {
-        EpisodeProbes x = saw("00 01 10 11 000 001 010 011 100 101 110 111");
+        Probes x = saw("00 01 10 11 000 001 010 011 100 101 110 111");
         x.trust(1, 7);
         x.asks(2);
         x.steps(1);
@@ -71,7 +71,7 @@ public final class EstimatesTest {
     }
 
     private static void trust() {
-        EpisodeProbes x = new EpisodeProbes();
+        Probes x = new Probes();
         for (int test = 0; test < 4; test++) {
             Check.due("at first", x.trust(test, test), 9999);
             Check.due("then", x.trust(test, 9999), test);
@@ -87,7 +87,7 @@ public final class EstimatesTest {
 
     /** That a test's number is due for these patterns. */
     private static void number(int test, int due, String patterns) {
-        EpisodeProbes x = saw(patterns);
+        Probes x = saw(patterns);
         x.trust(test, due);
         Check.due("test " + test + " is met by " + patterns, x.agrees(test), 1);
         if (due == 0) return;
@@ -112,7 +112,7 @@ public final class EstimatesTest {
         number(3, 1, "011 011 110 01");
         number(3, 3, "110 110 110 10 100");
         number(3, 0, "011 110 001 010 101");
-        EpisodeProbes x = new EpisodeProbes();
+        Probes x = new Probes();
         Check.due("below", x.agrees(-1), EpisodeProbes.BAD);
         Check.due("above", x.agrees(4), EpisodeProbes.BAD);
         for (int test = 0; test < 4; test++) {
@@ -122,7 +122,7 @@ public final class EstimatesTest {
     }
 
     private static void estimate(String patterns, int which, long top, long bottom) {
-        EpisodeProbes x = saw(patterns);
+        Probes x = saw(patterns);
         Check.due("estimate " + which + " of " + patterns, x.estimate(which, 0), top);
         Check.due("its denominator", x.estimate(which, 1), bottom);
     }
@@ -145,7 +145,7 @@ public final class EstimatesTest {
         estimate("011 011 01", 2, 1, 1);
         // U = 1, V = 3, R = 6, S = 2: (2 * 3 * 4 + 1 * 2) / (1 * 2)
         estimate("110 100 10 001 001 11 11 11", 2, 13, 1);
-        EpisodeProbes x = saw("01");
+        Probes x = saw("01");
         Check.due("which below", x.estimate(-1, 0), EpisodeProbes.BAD);
         Check.due("which above", x.estimate(3, 0), EpisodeProbes.BAD);
         Check.due("what below", x.estimate(0, -1), EpisodeProbes.BAD);
@@ -153,7 +153,7 @@ public final class EstimatesTest {
     }
 
     private static void fewAndUnlike() {
-        EpisodeProbes x = new EpisodeProbes();
+        Probes x = new Probes();
         for (int which = 0; which <= 2; which++) {
             Check.due("FEW", x.estimate(which, 0), EpisodeProbes.FEW);
             Check.due("FEW", x.estimate(which, 1), EpisodeProbes.FEW);
@@ -176,15 +176,15 @@ public final class EstimatesTest {
 
     /** The patterns give each estimate, but not this test with the tolerance 0. */
     private static void unlike(int test, String patterns) {
-        EpisodeProbes x = saw(patterns);
+        Probes x = saw(patterns);
         x.trust(test, 0);
-        String before = Check.picture(x);
+        String before = Picture.of(x);
         for (int which = 0; which <= 2; which++) {
             Check.due("UNLIKE", x.estimate(which, 0), EpisodeProbes.UNLIKE);
             Check.due("UNLIKE", x.estimate(which, 1), EpisodeProbes.UNLIKE);
             Check.due("BAD is before UNLIKE", x.estimate(which, 2), EpisodeProbes.BAD);
         }
-        Check.holds("an error changes nothing", Check.picture(x).equals(before));
+        Check.holds("an error changes nothing", Picture.of(x).equals(before));
         x.trust(test, 1);
         for (int which = 0; which <= 2; which++) Check.due("met", x.estimate(which, 1) > 0 ? 1 : 0, 1);
         // FEW is before UNLIKE: no triple is 011 or 110.
@@ -195,7 +195,7 @@ public final class EstimatesTest {
     }
 
     private static void truth() {
-        EpisodeProbes x = Check.path("room 1; cross 2 2 0 2 1 1;");
+        Probes x = Check.path("room 1; cross 2 2 0 2 1 1;");
         Check.due("no slot", x.truth(0, 0), EpisodeProbes.FEW);
         Check.due("no episode", x.truth(1, 0), EpisodeProbes.FEW);
         x.steps(6);
@@ -210,7 +210,7 @@ public final class EstimatesTest {
         Check.due("which above", x.truth(2, 0), EpisodeProbes.BAD);
         Check.due("what below", x.truth(0, -1), EpisodeProbes.BAD);
         Check.due("what above", x.truth(1, 2), EpisodeProbes.BAD);
-        x = new EpisodeProbes();
+        x = new Probes();
         Check.due("BAD is before FEW", x.truth(0, 2), EpisodeProbes.BAD);
         x.steps(7);
         Check.due("0 of 7 slots is 0/1", x.truth(0, 0) * 10 + x.truth(0, 1), 1);

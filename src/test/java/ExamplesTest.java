@@ -8,12 +8,12 @@ public final class ExamplesTest {
         Check.end("ExamplesTest");
     }
 
-    private static void type(EpisodeProbes x, String text) {
+    private static void type(Probes x, String text) {
         for (int i = 0; i < text.length(); i++) Check.due("type " + text.charAt(i), x.type(text.charAt(i)), i + 1);
     }
 
     private static void fullQueue() {
-        EpisodeProbes x = new EpisodeProbes();
+        Probes x = new Probes();
         type(x, "cross 7;");
         Check.due("path()", x.path(), 1);
         Check.due("asks(2)", x.asks(2), 1);
@@ -26,7 +26,7 @@ public final class ExamplesTest {
     }
 
     private static void unfinishedText() {
-        EpisodeProbes x = new EpisodeProbes();
+        Probes x = new Probes();
         type(x, "cross(9");
         Check.due("path()", x.path(), -17);
         Check.due("clear()", x.clear(), 7);
@@ -40,7 +40,7 @@ public final class ExamplesTest {
     }
 
     private static void chain() {
-        EpisodeProbes x = new EpisodeProbes();
+        Probes x = new Probes();
         Check.due("state(1)", x.state(1), 0);
         Check.due("state(0)", x.state(0), 1);
         Check.due("weight(0, 0, 6)", x.weight(0, 0, 6), 0);
@@ -60,7 +60,7 @@ public final class ExamplesTest {
     }
 
     private static void randomExperiments() {
-        EpisodeProbes x = new EpisodeProbes();
+        Probes x = new Probes();
         Check.due("draws(16, 5)", x.draws(16, 5), 0);
         Check.due("steps(4)", x.steps(4), 0);
         Check.due("count(5)", x.count(5), 4);

@@ -1,12 +1,16 @@
 /** Compares the class with the slow model on many runs of calls, drawn by a fixed rule. */
 public final class ModelTest {
+    /** A little more than a text takes. */
+    private static final int MOST_TYPED = 203;
+    /** The calls that are left for questions at the end of a run. */
+    private static final int LOOKS = 60;
     private static long seed = 1;
-    private static EpisodeProbes x;
+    private static Probes x;
     private static Model m;
 
     public static void main(String[] args) {
-        for (int run = 0; run < 1200; run++) shortRun(run);
-        for (int run = 0; run < 12; run++) longRun(run);
+        for (int run = 0; run < 2000; run++) shortRun(run);
+        for (int run = 0; run < 40; run++) longRun(run);
         for (int run = 0; run < 4000; run++) texts(run);
         for (int run = 0; run < 1500; run++) chains(run);
         Check.end("ModelTest");
@@ -34,7 +38,7 @@ public final class ModelTest {
 
     private static void begin(int run) {
         seed = 77 + 1000003L * run;
-        x = new EpisodeProbes();
+        x = new Probes();
         m = new Model();
     }
 
@@ -96,7 +100,7 @@ public final class ModelTest {
     }
 
     private static void type(String text) {
-        for (int i = 0; i < text.length(); i++) {
+        for (int i = 0; i < text.length() && i < MOST_TYPED; i++) {
             Check.due("type", x.type(text.charAt(i)), m.type(text.charAt(i)));
         }
     }
@@ -113,8 +117,9 @@ public final class ModelTest {
         begin(run);
         type(draw(3) > 0 ? spoilt(text()) : text());
         readPath();
+        Twins twins = new Twins(x);
         for (int row = 0; row <= 4; row++) {
-            for (int slot = 0; slot < 450; slot += between(1, 3)) Check.due("row", x.row(row, slot), m.row(row, slot));
+            for (int slot = 0; slot < 450; slot += between(1, 3)) Check.due("row", twins.one().row(row, slot), m.row(row, slot));
         }
         for (int what = 9; what <= 14; what++) Check.due("count", x.count(what), m.count(what));
     }
@@ -125,7 +130,7 @@ public final class ModelTest {
         begin(run);
         type(text());
         readPath();
-        for (int i = 0; i < 150; i++) call(12);
+        for (int i = 0; i < 150 && x.callsLeft() > LOOKS; i++) call(12);
         look();
     }
 
@@ -133,9 +138,9 @@ public final class ModelTest {
         begin(run);
         type(text());
         readPath();
-        for (int i = 0; i < 200; i++) {
+        for (int i = 0; i < 64 && x.callsLeft() > LOOKS; i++) {
             call(32);
-            Check.due("steps", x.steps(16), m.steps(16));
+            Check.due("steps", x.steps(32), m.steps(32));
         }
         look();
     }
@@ -184,6 +189,7 @@ public final class ModelTest {
     }
 
     private static void rarely() {
+        if (x.callsLeft() < MOST_TYPED + LOOKS) return;
         switch (draw(12)) {
             case 0: Check.due("forget", x.forget(), m.forget()); break;
             case 1: Check.due("empty", x.empty(), m.empty()); break;
@@ -236,31 +242,32 @@ public final class ModelTest {
 
     /** Compares all that can be seen at the end of a run. */
     private static void look() {
-        for (int what = 0; what <= 13; what++) Check.due("count " + what, x.count(what), m.count(what));
-        for (int slot = 0; slot < 2000; slot++) {
-            Check.due("lossy", x.lossy(slot), m.lossy(slot));
-            for (int what = 0; what <= 2; what++) Check.due("slot", x.slot(slot, what), m.slot(slot, what));
+        Twins twins = new Twins(x);
+        for (int what = 0; what <= 13; what++) Check.due("count " + what, twins.one().count(what), m.count(what));
+        for (int slot = 0; slot < 2000; slot += slot <= m.passed ? 1 : 333) {
+            Check.due("lossy", twins.one().lossy(slot), m.lossy(slot));
+            for (int what = 0; what <= 2; what++) Check.due("slot", twins.one().slot(slot, what), m.slot(slot, what));
         }
         for (int k = 0; k <= Math.min(60, m.count(4)); k++) {
-            for (int what = 0; what <= 5; what++) Check.due("episode", x.episode(k, what), m.episode(k, what));
+            for (int what = 0; what <= 5; what++) Check.due("episode", twins.one().episode(k, what), m.episode(k, what));
         }
         for (int source = 0; source <= 4; source++) {
-            for (int what = 0; what <= 3; what++) Check.due("packets", x.packets(source, what), m.packets(source, what));
+            for (int what = 0; what <= 3; what++) Check.due("packets", twins.one().packets(source, what), m.packets(source, what));
         }
         for (int what = 0; what <= 2; what++) {
-            Check.due("delay", x.delay(what), m.delay(what));
-            for (int k = 0; k <= m.count(8); k++) Check.due("under", x.under(k, what), m.under(k, what));
+            Check.due("delay", twins.one().delay(what), m.delay(what));
+            for (int k = 0; k <= m.count(8); k++) Check.due("under", twins.one().under(k, what), m.under(k, what));
         }
         for (int what = 0; what <= 1; what++) {
-            for (int which = 0; which <= 2; which++) Check.due("estimate", x.estimate(which, what), m.estimate(which, what));
-            for (int which = 0; which <= 1; which++) Check.due("truth", x.truth(which, what), m.truth(which, what));
+            for (int which = 0; which <= 2; which++) Check.due("estimate", twins.one().estimate(which, what), m.estimate(which, what));
+            for (int which = 0; which <= 1; which++) Check.due("truth", twins.one().truth(which, what), m.truth(which, what));
         }
         for (int width = 1; width <= 4 && m.passed <= 300; width++) {
-            for (int k = -1; k < 12; k++) Check.due("stab", x.stab(width, k), m.stab(width, k));
+            for (int k = -1; k < 12; k++) Check.due("stab", twins.one().stab(width, k), m.stab(width, k));
         }
         for (int n = 1; n <= 64; n++) {
-            Check.due("ahead", x.ahead(n, n % 21), m.ahead(n, n % 21));
-            Check.due("enough", x.enough(n), m.enough(n));
+            Check.due("ahead", twins.one().ahead(n, n % 21), m.ahead(n, n % 21));
+            Check.due("enough", twins.one().enough(n), m.enough(n));
         }
     }
 

@@ -13,15 +13,15 @@ public final class PredictionsTest {
     }
 
     /** Slots that are lossy where the string has a 1. */
-    private static EpisodeProbes lossy(String bits) {
+    private static Probes lossy(String bits) {
         StringBuilder text = new StringBuilder("room 1; cross");
         for (int i = 0; i < bits.length(); i++) text.append(bits.charAt(i) == '1' ? " 2" : " 0");
-        EpisodeProbes x = Check.path(text.append(';').toString());
+        Probes x = Check.path(text.append(';').toString());
         for (int i = 0; i < bits.length(); i++) x.steps(1);
         return x;
     }
 
-    private static String stabs(EpisodeProbes x, int width) {
+    private static String stabs(Probes x, int width) {
         StringBuilder all = new StringBuilder();
         int number = x.stab(width, -1);
         for (int k = 0; k < number; k++) all.append(k == 0 ? "" : " ").append(x.stab(width, k));
@@ -50,7 +50,7 @@ public final class PredictionsTest {
         stab("1001001", 4, "0 6");
         stab("1110001110011", 3, "2 8 12");
         stab("1110001110011", 4, "2 8");
-        EpisodeProbes x = new EpisodeProbes();
+        Probes x = new Probes();
         Check.due("no episode", x.stab(1, -1), 0);
         Check.due("no experiment", x.stab(1, 0), EpisodeProbes.NONE);
         x = lossy("0101");
@@ -66,7 +66,7 @@ public final class PredictionsTest {
         for (int pattern = 0; pattern < 512; pattern++) {
             StringBuilder bits = new StringBuilder();
             for (int slot = 0; slot < 9; slot++) bits.append(pattern >> slot & 1);
-            EpisodeProbes x = lossy(bits.toString());
+            Probes x = lossy(bits.toString());
             for (int width = 1; width <= 4; width++) {
                 String got = stabs(x, width), due = best(pattern, width);
                 Check.holds("stab of " + bits + " by " + width + ": " + due + ", not " + got, got.equals(due));
@@ -110,7 +110,7 @@ public final class PredictionsTest {
     }
 
     private static void stabLimits() {
-        EpisodeProbes x = Check.path("room 1; cross 0 2;");
+        Probes x = Check.path("room 1; cross 0 2;");
         for (int i = 0; i < 62; i++) x.steps(32);
         x.steps(16);
         Check.due("1000 episodes, by 2", x.stab(2, -1), 1000);
@@ -121,14 +121,14 @@ public final class PredictionsTest {
     }
 
     private static void ahead() {
-        EpisodeProbes x = Check.path("room 4; rate 2; cross 5 0 3; cross 1; plan 2;");
+        Probes x = Check.path("room 4; rate 2; cross 5 0 3; cross 1; plan 2;");
         // Without probes: 6 come, 4 enter, 2 stay; 1 comes, 1 stays; 4 come, 3 enter, 2 stay.
         Check.due("the plan does not matter", x.ahead(1, 0), 2);
         Check.due("two slots", x.ahead(2, 0), 2);
         Check.due("three slots", x.ahead(3, 0), 3);
         // 8 come, 4 enter, 2 stay; 3 come, 2 enter, 2 stay; 6 come, 2 enter
         Check.due("with 2 more", x.ahead(3, 2), 4 + 1 + 4);
-        x = new EpisodeProbes();
+        x = new Probes();
         x.asks(3);
         Check.due("requests do not matter", x.ahead(3, 10), 0 + 9 + 9);
         x.draws(16, 5);
@@ -157,7 +157,7 @@ public final class PredictionsTest {
 
     /** What is foreseen comes, if no experiment begins. */
     private static void aheadIsWhatComes() {
-        EpisodeProbes x = Check.path("room 7; rate 3; cross 9 0 (4 1) 3 2; cross 0 5 1; cross 2 2 0 0 0;");
+        Probes x = Check.path("room 7; rate 3; cross 9 0 (4 1) 3 2; cross 0 5 1; cross 2 2 0 0 0;");
         for (int round = 0; round < 40; round++) {
             for (int i = round % 5; i > 0 && i < 5; i--) x.asks(2 + i % 2);
             x.steps(1 + round % 3);
@@ -168,7 +168,7 @@ public final class PredictionsTest {
     }
 
     private static void enough() {
-        EpisodeProbes x = new EpisodeProbes();
+        Probes x = new Probes();
         Check.due("nothing comes", x.enough(64), 1);
         x = Check.path("room 2; cross 7 0 0 0;");
         Check.due("7 at once", x.enough(1), 7);
@@ -180,7 +180,7 @@ public final class PredictionsTest {
         x.steps(1);
         Check.due("the queue is above the capacity, but nothing comes", x.enough(4), 1);
         Check.due("when the next one comes, 15 are left", x.enough(5), 16);
-        x = new EpisodeProbes();
+        x = new Probes();
         for (int i = 0; i < 4; i++) x.asks(3);
         Check.due("requests do not matter", x.enough(9), 1);
         x.steps(1);
@@ -198,14 +198,14 @@ public final class PredictionsTest {
         }
     }
 
-    private static void counts(EpisodeProbes x, String due) {
+    private static void counts(Probes x, String due) {
         StringBuilder all = new StringBuilder();
         for (int what = 0; what <= 13; what++) all.append(what == 0 ? "" : " ").append(x.count(what));
         Check.holds("counts " + due + ", not " + all, all.toString().equals(due));
     }
 
     private static void count() {
-        EpisodeProbes x = new EpisodeProbes();
+        Probes x = new Probes();
         counts(x, "0 0 0 0 0 0 0 0 0 0 0 0 0 0");
         x = Check.path("room 3; budget 4 2; cross 0 6 6 0; cross 0; plan 3 0 0 (2 0) 2;");
         counts(x, "0 0 0 0 0 0 0 0 0 0 2 7 0 0");
@@ -228,19 +228,19 @@ public final class PredictionsTest {
     }
 
     private static void nothingChanges() {
-        EpisodeProbes x = Check.path("room 3; mark 2; cross 2 0 3; plan 2 0 3;");
+        Probes x = Check.path("room 3; mark 2; cross 2 0 3; plan 2 0 3;");
         x.asks(2);
         x.steps(17);
         x.asks(3);
-        String before = Check.picture(x);
-        for (int i = -2; i < 70; i++) {
+        String before = Picture.of(x);
+        for (int i = -2; i < 70; i += 6) {
             x.enough(i);
-            x.count(i);
-            for (int j = -2; j < 22; j++) {
-                x.stab(i, j);
+            x.count(i / 5);
+            for (int j = -2; j < 22; j += 2) {
+                x.stab(i / 12, j / 3);
                 x.ahead(i, j);
             }
         }
-        Check.holds("asking changes nothing", Check.picture(x).equals(before));
+        Check.holds("asking changes nothing", Picture.of(x).equals(before));
     }
 }

@@ -13,12 +13,12 @@ public final class RecordsTest {
     }
 
     /** Room for 2, and 4 packets in each third slot: slots 0, 3, 6 .. lose 2. */
-    private static EpisodeProbes eachThird() {
+    private static Probes eachThird() {
         return Check.path("room 2; rate 2; cross 4 0 0;");
     }
 
     private static void lossy() {
-        EpisodeProbes x = eachThird();
+        Probes x = eachThird();
         Check.due("before slot 0", x.lossy(0), EpisodeProbes.NONE);
         x.steps(5);
         for (int slot = 0; slot < 5; slot++) Check.due("lossy " + slot, x.lossy(slot), slot % 3 == 0 ? 1 : 0);
@@ -36,7 +36,7 @@ public final class RecordsTest {
     }
 
     private static void slot() {
-        EpisodeProbes x = Check.path("room 3; mark 2; rate 3; cross 1 0 5; plan 2 3;");
+        Probes x = Check.path("room 3; mark 2; rate 3; cross 1 0 5; plan 2 3;");
         x.asks(2);
         x.asks(2);
         x.steps(3);
@@ -62,14 +62,14 @@ public final class RecordsTest {
         Check.due("the probes of an aborted experiment stay", x.slot(2, 0), 2);
     }
 
-    private static void episode(EpisodeProbes x, int k, String due) {
+    private static void episode(Probes x, int k, String due) {
         StringBuilder all = new StringBuilder();
         for (int what = 0; what <= 5; what++) all.append(what == 0 ? "" : " ").append(x.episode(k, what));
         Check.holds("episode " + k + " is " + due + ", not " + all, all.toString().equals(due));
     }
 
     private static void episodes() {
-        EpisodeProbes x = Check.path("room 2; rate 2; cross 0 3 4 0 0 5; plan 0 0 2 0 3 0;");
+        Probes x = Check.path("room 2; rate 2; cross 0 3 4 0 0 5; plan 0 0 2 0 3 0;");
         Check.due("none yet", x.episode(0, 0), EpisodeProbes.BAD);
         x.steps(1);
         Check.due("none yet", x.episode(0, 0), EpisodeProbes.BAD);
@@ -101,7 +101,7 @@ public final class RecordsTest {
 
     /** As many episodes as there can be, and one as long as can be. */
     private static void lastSlots() {
-        EpisodeProbes x = Check.path("room 1; cross 0 2;");
+        Probes x = Check.path("room 1; cross 0 2;");
         for (int i = 0; i < 62; i++) x.steps(32);
         x.steps(16);
         Check.due("episodes", x.count(4), 1000);
@@ -116,14 +116,14 @@ public final class RecordsTest {
         episode(x, 0, "0 2000 2000 0 0 0");
     }
 
-    private static void packets(EpisodeProbes x, int source, String due) {
+    private static void packets(Probes x, int source, String due) {
         StringBuilder all = new StringBuilder();
         for (int what = 0; what <= 3; what++) all.append(what == 0 ? "" : " ").append(x.packets(source, what));
         Check.holds("packets of " + source + ": " + due + ", not " + all, all.toString().equals(due));
     }
 
     private static void packets() {
-        EpisodeProbes x = Check.path("room 4; rate 1; cross 2 0; cross 0 4; cross 0; plan 0 2;");
+        Probes x = Check.path("room 4; rate 1; cross 2 0; cross 0 4; cross 0; plan 0 2;");
         packets(x, 0, "0 0 0 0");
         x.steps(1);
         packets(x, 0, "2 0 1 1");
@@ -141,7 +141,7 @@ public final class RecordsTest {
         Check.due("below", x.packets(-1, 0), EpisodeProbes.BAD);
         Check.due("what above", x.packets(0, 4), EpisodeProbes.BAD);
         Check.due("what below", x.packets(4, -1), EpisodeProbes.BAD);
-        x = new EpisodeProbes();
+        x = new Probes();
         packets(x, 4, "0 0 0 0");
         Check.due("no source", x.packets(0, 0), EpisodeProbes.BAD);
         x.asks(3);
@@ -150,14 +150,14 @@ public final class RecordsTest {
         packets(x, 4, "4 0 2 2");
     }
 
-    private static void delay(EpisodeProbes x, String due) {
+    private static void delay(Probes x, String due) {
         StringBuilder all = new StringBuilder();
         for (int what = 0; what <= 2; what++) all.append(what == 0 ? "" : " ").append(x.delay(what));
         Check.holds("delays: " + due + ", not " + all, all.toString().equals(due));
     }
 
     private static void delay() {
-        EpisodeProbes x = Check.path("room 9; rate 2; cross 6 0 0 0 0 0; plan 2 0 0 3 0 0;");
+        Probes x = Check.path("room 9; rate 2; cross 6 0 0 0 0 0; plan 2 0 0 3 0 0;");
         delay(x, "0 0 0");
         x.steps(3);
         delay(x, "0 0 0");
@@ -176,7 +176,7 @@ public final class RecordsTest {
     }
 
     private static void under() {
-        EpisodeProbes x = Check.path("room 2; rate 1; cross 0 0 2 0;");
+        Probes x = Check.path("room 2; rate 1; cross 0 0 2 0;");
         x.steps(1);
         Check.due("none", x.under(0, 0), EpisodeProbes.BAD);
         x.asks(3);
@@ -205,19 +205,19 @@ public final class RecordsTest {
     }
 
     private static void nothingChanges() {
-        EpisodeProbes x = Check.path("room 3; mark 2; cross 2 0 3; plan 2 0 3;");
+        Probes x = Check.path("room 3; mark 2; cross 2 0 3; plan 2 0 3;");
         x.steps(17);
-        String before = Check.picture(x);
-        for (int i = -2; i < 9; i++) {
+        String before = Picture.of(x);
+        for (int i = -2; i < 6; i++) {
             x.lossy(i);
             x.delay(i);
-            for (int j = -2; j < 9; j++) {
+            for (int j = -1; j < 7; j++) {
                 x.slot(i, j);
                 x.episode(i, j);
                 x.packets(i, j);
                 x.under(i, j);
             }
         }
-        Check.holds("asking changes nothing", Check.picture(x).equals(before));
+        Check.holds("asking changes nothing", Picture.of(x).equals(before));
     }
 }

@@ -15,28 +15,28 @@ public final class SlotsTest {
     }
 
     private static void stepsRange() {
-        EpisodeProbes x = Check.path("room 2; cross 3 0 4;");
-        String before = Check.picture(x);
+        Probes x = Check.path("room 2; cross 3 0 4;");
+        String before = Picture.of(x);
         Check.due("steps(0)", x.steps(0), EpisodeProbes.BAD);
         Check.due("steps(-1)", x.steps(-1), EpisodeProbes.BAD);
         Check.due("steps(33)", x.steps(33), EpisodeProbes.BAD);
-        Check.holds("a wrong n changes nothing", Check.picture(x).equals(before));
+        Check.holds("a wrong n changes nothing", Picture.of(x).equals(before));
         Check.due("steps(1)", x.steps(1), 1);
         Check.due("steps(2)", x.steps(2), 1);
         Check.due("steps(3)", x.steps(3), 2);
         Check.due("slots that have passed", x.count(0), 6);
         Check.due("steps(32)", x.steps(32), 21);
-        Check.due("no loss", new EpisodeProbes().steps(32), 0);
+        Check.due("no loss", new Probes().steps(32), 0);
     }
 
     private static void stepsLimit() {
-        EpisodeProbes x = Check.path("plan 0 0 0 0 0 0 0 0 0 3;");
+        Probes x = Check.path("plan 0 0 0 0 0 0 0 0 0 3;");
         for (int i = 0; i < 62; i++) x.steps(32);
         Check.due("1984 slots", x.count(0), 1984);
-        String before = Check.picture(x);
+        String before = Picture.of(x);
         Check.due("17 more", x.steps(17), EpisodeProbes.FULL);
         Check.due("BAD is before FULL", x.steps(33), EpisodeProbes.BAD);
-        Check.holds("FULL changes nothing", Check.picture(x).equals(before));
+        Check.holds("FULL changes nothing", Picture.of(x).equals(before));
         Check.due("16 more", x.steps(16), 0);
         Check.due("one more", x.steps(1), EpisodeProbes.FULL);
         Check.due("2000 slots", x.count(0), 2000);
@@ -50,7 +50,7 @@ public final class SlotsTest {
 
     /** Sources come in their order, then the probes in the order of their begin. */
     private static void order() {
-        EpisodeProbes x = Check.path("room 3; mark 2; rate 3; cross 1; cross 1; plan 2;");
+        Probes x = Check.path("room 3; mark 2; rate 3; cross 1; cross 1; plan 2;");
         x.asks(3);
         x.asks(2);
         Check.due("two of three probes are lost", x.steps(1), 1);
@@ -93,7 +93,7 @@ public final class SlotsTest {
     }
 
     private static void queue() {
-        EpisodeProbes x = Check.path("room 4; rate 2; cross 5 0 0 1;");
+        Probes x = Check.path("room 4; rate 2; cross 5 0 0 1;");
         x.steps(1);
         Check.due("one of 5 is lost", x.count(2), 1);
         Check.due("two of 4 have left", x.count(1), 2);
@@ -111,7 +111,7 @@ public final class SlotsTest {
     }
 
     private static void asks() {
-        EpisodeProbes x = new EpisodeProbes();
+        Probes x = new Probes();
         for (int kind = -2; kind <= 6; kind++) {
             if (kind != 2 && kind != 3) Check.due("asks " + kind, x.asks(kind), EpisodeProbes.BAD);
         }
@@ -140,7 +140,7 @@ public final class SlotsTest {
     }
 
     private static void plan() {
-        EpisodeProbes x = Check.path("plan 0 2 0 3;");
+        Probes x = Check.path("plan 0 2 0 3;");
         x.steps(4);
         Check.due("begun", x.count(5), 2);
         Check.due("the triple of slot 3", x.under(0, 0) * 10 + x.under(0, 1), 33);
@@ -153,7 +153,7 @@ public final class SlotsTest {
     }
 
     private static void budget() {
-        EpisodeProbes x = Check.path("budget 2 2;");
+        Probes x = Check.path("budget 2 2;");
         x.asks(2);
         x.asks(2);
         x.steps(1);
@@ -223,7 +223,7 @@ public final class SlotsTest {
     }
 
     private static void draws() {
-        EpisodeProbes x = new EpisodeProbes();
+        Probes x = new Probes();
         Check.due("draws", x.draws(16, -5), 0);
         Check.due("draws", x.draws(7, 1), 16);
         Check.due("below", x.draws(-1, 1), EpisodeProbes.BAD);
@@ -235,7 +235,7 @@ public final class SlotsTest {
         drawsLike(8, -1);
         drawsLike(8, Integer.MIN_VALUE);
         drawsLike(15, Integer.MAX_VALUE);
-        x = new EpisodeProbes();
+        x = new Probes();
         x.draws(16, 99);
         x.steps(3);
         x.draws(17, 5);
@@ -249,10 +249,10 @@ public final class SlotsTest {
     }
 
     private static void drawsLike(int chance, int from) {
-        EpisodeProbes x = new EpisodeProbes();
+        Probes x = new Probes();
         x.draws(chance, from);
         int begun = 0, next = from;
-        for (int slot = 0; slot < 200; slot++) {
+        for (int slot = 0; slot < 100; slot++) {
             next = 69069 * next + 1;
             x.steps(1);
             boolean isDrawn = (next >>> 28) < chance;
@@ -267,17 +267,17 @@ public final class SlotsTest {
     }
 
     private static void breaks() {
-        EpisodeProbes x = new EpisodeProbes();
+        Probes x = new Probes();
         Check.due("none is active", x.breaks(0), EpisodeProbes.BAD);
         x.asks(3);
         x.asks(2);
         Check.due("none is active before the slot", x.breaks(0), EpisodeProbes.BAD);
         x.steps(1);
         x.asks(3);
-        String before = Check.picture(x);
+        String before = Picture.of(x);
         Check.due("below", x.breaks(-1), EpisodeProbes.BAD);
         Check.due("behind", x.breaks(2), EpisodeProbes.BAD);
-        Check.holds("nothing is changed", Check.picture(x).equals(before));
+        Check.holds("nothing is changed", Picture.of(x).equals(before));
         x.steps(1);
         Check.due("two are active", x.count(8), 2);
         Check.due("the older one has sent 2", x.breaks(0), 2);
@@ -286,7 +286,7 @@ public final class SlotsTest {
         Check.due("none is left", x.breaks(0), EpisodeProbes.BAD);
         Check.due("aborted", x.count(7), 2);
         Check.due("they have begun all the same", x.count(5), 3);
-        EpisodeProbes y = Check.path("room 2; cross 0 2 0;");
+        Probes y = Check.path("room 2; cross 0 2 0;");
         y.asks(3);
         y.steps(1);
         y.asks(2);
@@ -324,7 +324,7 @@ public final class SlotsTest {
     }
 
     private static void breaksFreesBudget() {
-        EpisodeProbes x = Check.path("budget 3 4;");
+        Probes x = Check.path("budget 3 4;");
         x.asks(3);
         x.steps(1);
         x.breaks(0);
