@@ -25,6 +25,8 @@ public final class FaceTest {
         classes();
         methods();
         fields();
+        parameters(EpisodeProbes.class);
+        for (Class<?> inner : EpisodeProbes.class.getDeclaredClasses()) parameters(inner);
         Check.end("FaceTest");
     }
 
@@ -74,6 +76,11 @@ public final class FaceTest {
         Check.due("constants", constants, 7);
         staticsAreFinal(EpisodeProbes.class);
         for (Class<?> inner : EpisodeProbes.class.getDeclaredClasses()) staticsAreFinal(inner);
+    }
+
+    private static void parameters(Class<?> c) {
+        for (Method m : c.getDeclaredMethods()) Check.holds(m + " takes at most seven parameters", m.getParameterCount() <= 7);
+        for (Constructor<?> k : c.getDeclaredConstructors()) Check.holds(k + " takes at most seven parameters", k.getParameterCount() <= 7);
     }
 
     private static void staticsAreFinal(Class<?> c) {
