@@ -17,6 +17,8 @@ public final class ChainEdgesTest {
         shareRange();
         chanceRange();
         expectedRange();
+        expectedOfBoth();
+        expectedAnew();
         expectedFew();
         lastsRange();
         lastsFew();
@@ -351,6 +353,54 @@ public final class ChainEdgesTest {
         Check.refused(two(), BAD, x -> x.expected(which, what));
         Check.refused(new Probes(), BAD, x -> x.expected(which, what));
         Check.refused(Check.chain("1", 12), BAD, x -> x.expected(which, what));
+    }
+
+    private static void expects(Probes x, String due) {
+        StringBuilder all = new StringBuilder();
+        for (int which = 0; which <= 2; which++) {
+            all.append(which == 0 ? "" : " ").append(x.expected(which, 0)).append('/').append(x.expected(which, 1));
+        }
+        Check.holds("expected " + due + ", not " + all, all.toString().equals(due));
+    }
+
+    private static void expectedOfBoth() {
+        Check.says("expected: the numbers of pairs and of triples, all 12 patterns, are replaced by their probabilities");
+        // Half of the pairs and 3/8 of the triples are zeros.
+        expects(two(), "1/3 2/1 5/2");
+        expects(Check.chain("10", 9, 3, 3, 9), "1/2 4/1 4/1");
+        expects(Check.chain("01", 9, 3, 3, 9), "1/2 4/1 4/1");
+        expects(Check.chain("10", 9, 3, 6, 6), "2/3 4/1 3/1");
+        expects(Check.chain("110", 0, 12, 0, 0, 0, 12, 12, 0, 0), "2/3 2/1 1/1");
+        expects(Check.chain("1000", 0, 12, 0, 0, 0, 0, 12, 0, 0, 0, 0, 12, 12, 0, 0, 0), "1/4 1/1 -4/-4");
+        expects(Check.chain("1100", 0, 12, 0, 0, 0, 0, 12, 0, 0, 0, 0, 12, 12, 0, 0, 0), "1/2 2/1 2/1");
+    }
+
+    private static void expectedAnew() {
+        Check.says("expected: of the chain as it is, whatever it was before");
+        Probes x = two();
+        expects(x, "1/3 2/1 5/2");
+        expects(x, "1/3 2/1 5/2");
+        x.weight(1, 0, 6);
+        x.weight(1, 1, 6);
+        expects(x, "1/2 2/1 2/1");
+        x.weight(0, 0, 0);
+        x.weight(0, 1, 12);
+        expects(x, "1/3 1/1 -4/-4");
+        x.empty();
+        x.state(1);
+        x.weight(0, 0, 12);
+        expects(x, "1/1 -4/-4 -4/-4");
+        Check.due("share", x.share(0, 1), 1);
+        Check.due("the pattern 11", x.chance(2, 3, 0), 1);
+        x.weight(0, 0, 11);
+        Check.due("lasts", x.lasts(1, 0), STATE);
+        x.state(0);
+        x.weight(0, 1, 1);
+        x.weight(1, 0, 12);
+        Check.due("share", x.share(0, 0), 12);
+        Check.due("lasts", x.lasts(2, 0), 11);
+        Check.due("lasts", x.lasts(2, 1), 12);
+        Check.due("lasts", x.lasts(1, 1), 1);
     }
 
     private static void expectedFew() {

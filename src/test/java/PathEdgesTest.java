@@ -343,6 +343,7 @@ public final class PathEdgesTest {
                 StringBuilder text = new StringBuilder();
                 for (int i = 0; i < items.length; i++) if (i != left) text.append(items[i]);
                 Probes x = Check.path(text.toString());
+                Check.typed(x, text.toString()).path();
                 x.steps(2);
                 String next = given < 0 ? "" : items[given];
                 Check.typed(x, next).path();
@@ -401,6 +402,17 @@ public final class PathEdgesTest {
             Check.holds("nothing changes", Picture.of(x).equals(before));
             Check.holds("path() is an error again", x.path() <= -10);
             Check.due("the text stays", x.clear(), text.length());
+        }
+        Check.says("path: what an error has spoilt is as at first in the next text");
+        String spoilt = "room 3;rate 2;mark 1;budget 2 3;cross 4 1;plan 2 0 3;x";
+        for (String next : new String[] {"", "room 5;", "rate 3;", "mark 2;", "budget 3 1;", "plan 3;", "cross 2;", "cross 2 1;cross 3;"}) {
+            x = new Probes();
+            for (int i = 0; i < 2; i++) {
+                Check.due("path()", Check.typed(x, spoilt).path(), -10 - 53);
+                x.clear();
+            }
+            Check.typed(x, next).path();
+            Check.holds("after two errors and '" + next + "' as after the last one alone", shown(x).equals(shown(Check.path(next))));
         }
         Check.says("path: the position 0 is -10");
         Check.due("path()", Check.read(";"), -10);

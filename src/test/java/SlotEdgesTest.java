@@ -672,6 +672,29 @@ public final class SlotEdgesTest {
         Check.due("the third one is first", x.under(0, 0), 3);
         Check.answers(x, 1, p -> p.breaks(0));
         Check.refused(x, BAD, p -> p.breaks(0));
+        Check.says("breaks: the others keep their kinds, their begins and the bits that they saw");
+        for (int k = 0; k < 6; k++) breaksOneOfSix(k);
+    }
+
+    private static void breaksOneOfSix(int k) {
+        // With room for 3 and the mark 2, the probes of slot 1 see 0, 0, 1, 1, 1, 1; before them two have seen 0 and 0.
+        Probes x = Check.path("room 3;rate 9;mark 2;cross 0;");
+        slot(x, 3, 3);
+        slot(x, 2, 3, 3, 2);
+        int[] kinds = {3, 3, 2, 3, 3, 2}, begins = {0, 0, 1, 1, 1, 1}, bits = {0, 0, 1, 1, 1, 1};
+        Check.due("active", x.count(8), 6);
+        Check.due("breaks(" + k + ")", x.breaks(k), k < 2 ? 2 : 1);
+        for (int i = 0; i < 5; i++) {
+            int former = i < k ? i : i + 1;
+            Check.due("the kind", x.under(i, 0), kinds[former]);
+            Check.due("the begin", x.under(i, 1), begins[former]);
+            Check.due("the bits", x.under(i, 2), bits[former]);
+        }
+        Check.due("no other one", x.under(5, 0), BAD);
+        x.steps(2);
+        // What goes on in slot 2 sees 0, 0, 1, 1, 1, those that are left.
+        Check.due("pairs", x.pattern(2, 0) + x.pattern(2, 1) + x.pattern(2, 2) + x.pattern(2, 3), kinds[k] == 2 ? 1 : 2);
+        Check.due("triples of slots 0 to 2", x.pattern(3, 0), k < 2 ? 1 : 2);
     }
 
     private static void breaksSent() {

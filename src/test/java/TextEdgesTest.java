@@ -143,6 +143,19 @@ public final class TextEdgesTest {
         wrong("^pla 2;");
         wrong("^cros 2;");
         wrong("^crossr 2;");
+        Check.says("a word that differs from one of these in one letter, or lacks one, or has one more");
+        for (String item : ITEMS) {
+            String word = item.substring(0, item.indexOf(' ')), rest = item.substring(item.indexOf(' '));
+            for (int i = 0; i < word.length(); i++) {
+                for (char letter : new char[] {'a', 'z', (char) (word.charAt(i) - 1), (char) (word.charAt(i) + 1)}) {
+                    String other = word.substring(0, i) + letter + word.substring(i + 1);
+                    if (!other.equals(word) && letter >= 'a' && letter <= 'z') wrong("^" + other + rest);
+                }
+                wrong("^" + word.substring(0, i) + word.substring(i + 1) + rest);
+                wrong("^" + word.substring(0, i) + word.charAt(i) + word.substring(i) + rest);
+            }
+            wrong("^" + word + "s" + rest);
+        }
         Check.says("a to z alone: neither their neighbours nor capitals");
         wrong("room^`5;");
         wrong("room^{5;");
